@@ -465,6 +465,7 @@ public final class BellPulls {
     private static final class Wiring {
         private final Pulls pulls;
         private final Bells bells;
+        /** A dead crank stands here, too, but no force is left to be lessened by it. */
         private final int[] slack = new int[CRANKS];
         private final int[] crossedWith = new int[CRANKS];
         private int deadBits;
@@ -477,15 +478,10 @@ public final class BellPulls {
         }
 
         int setCrank(int crank, int v) {
+            int was = slack[crank];
+            slack[crank] = v;
             int bit = 1 << crank;
-            int was = (deadBits & bit) != 0 ? DEAD : slack[crank];
-            if (v == DEAD) {
-                deadBits |= bit;
-                slack[crank] = 0;
-            } else {
-                deadBits &= ~bit;
-                slack[crank] = v;
-            }
+            deadBits = v == DEAD ? deadBits | bit : deadBits & ~bit;
             return was;
         }
 

@@ -10,6 +10,7 @@ public final class FaultTest {
         deadOrMute();
         weakBySlack();
         heatOfTheTest();
+        slackByOne();
         theStateIsNoMatter();
         nextTest();
         nextTestByHeat();
@@ -127,6 +128,23 @@ public final class FaultTest {
         x.test(1, 20, 1);
         // force 5: all but dead, slack 5 to 9 and mute
         due.is("24 weak by heat alone", x.fault(-1), 168 - 5 - 25 - 1);
+    }
+
+    private static void slackByOne() {
+        BellPulls x = new BellPulls();
+        x.pull(0, 0, 0, 0, 0b1000000000000111);
+        x.test(0, 20, 1);
+        // force 6 less 1 to 5 is weak
+        due.is("24 four cranks", x.fault(-1), 20);
+        due.is("24 the first slack fault", x.fault(0), 16);
+        due.is("24 crank 0 slack by 5", x.fault(4), 20);
+        due.is("24 crank 1 slack by 1", x.fault(5), 25);
+        due.is("24 crank 15 slack by 1", x.fault(15), 151);
+        x.noTests();
+        x.test(0, 20, 0);
+        // and less 6 to 9 is nothing
+        due.is("24 dead, slack 6 to 9, mute", x.fault(-1), 4 + 16 + 1);
+        due.is("24 after the dead", x.fault(4), 21);
     }
 
     private static void theStateIsNoMatter() {

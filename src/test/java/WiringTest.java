@@ -15,6 +15,7 @@ public final class WiringTest {
         force();
         wouldAlone();
         wouldCrossed();
+        wouldCrossedWithSeveral();
         means();
         meansBadNumbers();
         due.end();
@@ -154,6 +155,8 @@ public final class WiringTest {
         due.is("6 the other way round", x.cross(15, 0), NO);
         due.is("6 one crank twice", x.cross(0, 1), 2);
         due.is("6 third", x.cross(2, 1), 3);
+        due.is("6 the first is crossed yet", x.cross(0, 15), NO);
+        due.is("6 the second, too", x.cross(1, 0), NO);
         due.is("6 a is b", x.cross(7, 7), BAD);
         due.is("6 fourth", x.cross(8, 9), 4);
         due.is("6 fifth", x.cross(3, 4), FULL);
@@ -277,6 +280,23 @@ public final class WiringTest {
         due.is("9 pulls along though its bell is mute", x.would(0, 1), 1);
         due.is("7 uncrossed", x.uncross(), 2);
         due.is("7 pulls along no more", x.would(0, 1), 0);
+    }
+
+    private static void wouldCrossedWithSeveral() {
+        BellPulls x = new BellPulls();
+        for (int i = 0; i < 5; i++) {
+            x.pull(0, 0, 0, i, 1 << i);
+        }
+        x.cross(0, 1);
+        x.cross(0, 2);
+        x.cross(3, 0);
+        for (int b = 1; b < 4; b++) {
+            due.is("9 each crossed with it", x.would(0, b), 1);
+            due.is("9 and it with each", x.would(b, 0), 1);
+        }
+        due.is("9 not with those crossed with the same", x.would(1, 2), 0);
+        due.is("9 one that is not crossed", x.would(0, 4), 0);
+        due.is("12 all of them", x.ring(0), 0b1111);
     }
 
     private static void means() {
