@@ -799,7 +799,7 @@ public final class BellPulls {
                 }
             }
             bestCost = Integer.MAX_VALUE;
-            tryFrom(0, 0, 0);
+            tryFrom(this, 0, 0, 0);
         }
 
         int servantFor(int pull) {
@@ -813,27 +813,36 @@ public final class BellPulls {
 
         /**
          * Tries lower servants first and nobody last, so that of sharings with one cost the
-         * first that is found is the one wanted; a later one must be cheaper.
+         * first that is found is the one wanted; a later one must be cheaper. Static, as the
+         * language's rule 8 has a method that calls itself.
          */
-        private void tryFrom(int i, int busy, int cost) {
-            if (cost >= bestCost) {
+        private static void tryFrom(Sharing all, int i, int busy, int cost) {
+            if (cost >= all.bestCost) {
                 return;
             }
-            if (i >= size || i >= MOST_SHARED) {
-                keep(cost);
+            if (i >= all.size || i >= MOST_SHARED) {
+                all.keep(cost);
                 return;
             }
-            int pull = waiting[i];
-            int weight = pulls.rank[pull] + 1;
-            for (int servant = 0; servant < servants.size; servant++) {
-                if (((busy >> servant) & 1) == 0 && servants.mayGo(servant, pulls.rank[pull])) {
-                    int far = servants.wayTo(servant, pulls.floor[pull], pulls.place[pull]);
-                    tried[i] = servant;
-                    tryFrom(i + 1, busy | (1 << servant), cost + weight * far);
+            int pull = all.waiting[i];
+            int weight = all.pulls.rank[pull] + 1;
+            for (int servant = 0; servant < all.servants.size; servant++) {
+                if (((busy >> servant) & 1) == 0 && all.mayTake(servant, pull)) {
+                    all.tried[i] = servant;
+                    int more = weight * all.far(servant, pull);
+                    tryFrom(all, i + 1, busy | (1 << servant), cost + more);
                 }
             }
-            tried[i] = NOBODY;
-            tryFrom(i + 1, busy, cost + weight * COST_OF_NOBODY);
+            all.tried[i] = NOBODY;
+            tryFrom(all, i + 1, busy, cost + weight * COST_OF_NOBODY);
+        }
+
+        private boolean mayTake(int servant, int pull) {
+            return servants.mayGo(servant, pulls.rank[pull]);
+        }
+
+        private int far(int servant, int pull) {
+            return servants.wayTo(servant, pulls.floor[pull], pulls.place[pull]);
         }
 
         private void keep(int cost) {
