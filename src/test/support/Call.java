@@ -1,5 +1,6 @@
 import java.lang.reflect.InvocationTargetException;
 import java.lang.reflect.Method;
+import java.util.Arrays;
 import java.util.HashMap;
 import java.util.Map;
 
@@ -30,14 +31,6 @@ final class Call {
                 : Integer.parseInt(word);
     }
 
-    static Call[] all(String... texts) {
-        Call[] calls = new Call[texts.length];
-        for (int i = 0; i < texts.length; i++) {
-            calls[i] = new Call(texts[i]);
-        }
-        return calls;
-    }
-
     int on(Object target) {
         try {
             return (Integer) methodOf(target.getClass()).invoke(target, numbers);
@@ -53,7 +46,7 @@ final class Call {
         Method known = METHODS.get(key);
         if (known == null) {
             Class<?>[] ints = new Class<?>[numbers.length];
-            java.util.Arrays.fill(ints, int.class);
+            Arrays.fill(ints, int.class);
             known = type.getDeclaredMethod(name, ints);
             METHODS.put(key, known);
         }
