@@ -774,6 +774,8 @@ public final class BellPulls {
         /** Above every servant, as the document orders it. */
         static final int NOBODY = MOST_SERVANTS;
         private static final int COST_OF_NOBODY = 100;
+        /** Far above four pulls of the highest rank that all go to nobody. */
+        private static final int DEARER_THAN_ANY = 1000000;
 
         private final Pulls pulls;
         private final Servants servants;
@@ -798,7 +800,7 @@ public final class BellPulls {
                     size++;
                 }
             }
-            bestCost = Integer.MAX_VALUE;
+            bestCost = DEARER_THAN_ANY;
             tryFrom(this, 0, 0, 0);
         }
 

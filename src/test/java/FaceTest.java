@@ -22,15 +22,24 @@ public final class FaceTest {
         "float", "double", "instanceof", "volatile", "native", "protected", "var", "Object",
     };
     private static final Set<String> LIBRARY =
-            Set.of("Math.max", "Math.min", "Math.abs", "Integer.bitCount", "Integer.MAX_VALUE");
+            Set.of("Math.max", "Math.min", "Math.abs", "Integer.bitCount");
+    /** Rows of an object are made with it, and the face makes its parts; nothing else is made. */
+    private static final Pattern MADE = Pattern.compile(
+            " +(private )?final int\\[\\] \\w+ = new int\\[.+\\];| {8}\\w+ = new \\w+\\([\\w, ]*\\);");
+    private static final Pattern METHOD = Pattern.compile(
+            "( {4}| {8})(?!if|for|while|switch|return)\\w[\\w \\[\\]]*\\([^;]*");
+    private static final int LONGEST = 60;
     private static final Due due = new Due();
 
     public static void main(String[] args) throws IOException {
         face();
+        faceAsTheDocumentWritesIt();
         String code = Files.readString(SOURCE)
                 .replaceAll("(?s)/\\*.*?\\*/", "").replaceAll("//[^\n]*", "");
         words(code);
         library(code);
+        madeWithTheObject(code);
+        shortMethods(code);
         names();
         due.end();
     }
@@ -63,6 +72,45 @@ public final class FaceTest {
             due.that(f.getName() + " is private", open || Modifier.isPrivate(f.getModifiers()));
             due.that(f.getName() + " is final", Modifier.isFinal(f.getModifiers()));
         }
+    }
+
+    private static void faceAsTheDocumentWritesIt() throws IOException {
+        String source = Files.readString(SOURCE);
+        int lines = 0;
+        for (String line : Files.readAllLines(Path.of("../shared/DOC.md"))) {
+            if (line.startsWith("    public ")) {
+                lines++;
+                String written = line.contains("(") ? line.replace(";", " {") : line;
+                due.that("the class has " + line.trim(), source.contains("\n" + written + "\n"));
+            }
+        }
+        due.is("constants, a constructor and methods", lines, 1 + 1 + FACE.length);
+    }
+
+    private static void madeWithTheObject(String code) {
+        for (String line : code.split("\n")) {
+            if (Pattern.compile("\\bnew\\b").matcher(line).find()) {
+                due.that("made with the object: " + line.trim(), MADE.matcher(line).matches());
+            }
+        }
+    }
+
+    private static void shortMethods(String code) {
+        String[] lines = code.split("\n");
+        int methods = 0;
+        for (int i = 0; i < lines.length; i++) {
+            Matcher head = METHOD.matcher(lines[i]);
+            if (!head.matches() || lines[i].endsWith(";")) {
+                continue;
+            }
+            int end = i;
+            while (end < lines.length - 1 && !lines[end].equals(head.group(1) + "}")) {
+                end++;
+            }
+            methods++;
+            due.that(lines[i].trim() + " is short", end - i < LONGEST);
+        }
+        due.that("methods are found: " + methods, methods > 80);
     }
 
     private static void names() {
